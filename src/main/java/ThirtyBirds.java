@@ -837,6 +837,7 @@ public final class ThirtyBirds {
             }
         }
 
+        /** Rounds of leaving are as many as birds: one in which nobody leaves is the last that could matter. */
         void flyNext() {
             if (coming() < 1) {
                 return;
@@ -992,7 +993,7 @@ public final class ThirtyBirds {
         }
 
         /** By the body that is told for a kind; a kind without one goes to the kind above. */
-        int size(int of, int depth) {
+        private int size(int of, int depth) {
             if (depth > DEEPEST_ASK) {
                 return 0;
             }
@@ -1019,7 +1020,7 @@ public final class ThirtyBirds {
             }
         }
 
-        int mark(int of, int depth) {
+        private int mark(int of, int depth) {
             if (depth > DEEPEST_ASK) {
                 return 0;
             }
@@ -1085,9 +1086,7 @@ public final class ThirtyBirds {
         }
 
         boolean readLaw(Flight flight) {
-            if (!passes('f')) {
-                return false;
-            }
+            passes('f');
             flight.told.lawOfFeed = number(MOST_FEED);
             return passes(';');
         }
@@ -1105,11 +1104,11 @@ public final class ThirtyBirds {
         }
 
         boolean readValley(Flight flight) {
-            boolean begins = passes('v');
+            passes('v');
             int asks = number(MOST_ASKS);
-            boolean goesOn = passes(',');
+            passes(',');
             int loss = number(MOST_LOSS);
-            if (!begins || !goesOn || !passes(';')) {
+            if (!passes(';')) {
                 return false;
             }
             flight.addValley(asks, loss);
@@ -1135,11 +1134,11 @@ public final class ThirtyBirds {
             }
             at++;
             int strong = number(MOST_STRONG);
-            boolean isStrong = passes(',');
+            passes(',');
             int leaves = number(MOST_LEAVES);
-            boolean isLeaving = passes(',');
+            passes(',');
             int loves = number(MOST_LOVES);
-            if (!isStrong || !isLeaving || !passes(';')) {
+            if (!passes(';')) {
                 return false;
             }
             flight.addBird(kind, strong, leaves, loves);
@@ -1157,7 +1156,7 @@ public final class ThirtyBirds {
             }
         }
 
-        /** Once there is a fault nothing more is read, so the first one stands. */
+        /** Once there is a fault nothing passes any more: so the first one stands, and a last sign answers for all. */
         boolean passes(char letter) {
             if (isFaulty) {
                 return false;

@@ -8,16 +8,16 @@ import java.util.List;
 import java.util.Random;
 import java.util.Set;
 
-/** Any calls with any numbers: none throws, the same calls answer the same, what is refused or foretold changes nothing. */
+/** Any calls with any numbers: none throws, the same answer the same, what is refused or foretold changes nothing. */
 public final class AnyCallTest {
-    private static final int[] NUMBERS = {-1, -2, 0, 1, 2, 3, 4, 5, 6, 7, 8, 10, 39, 40, 41, 63, 255, 256, 999999, 1000000,
-        Integer.MIN_VALUE, Integer.MIN_VALUE + 1, Integer.MAX_VALUE, Integer.MAX_VALUE - 1};
+    private static final int[] NUMBERS = {-1, -2, 0, 1, 2, 3, 4, 5, 6, 7, 8, 10, 39, 40, 41, 63, 255, 256, 999999,
+        1000000, Integer.MIN_VALUE, Integer.MIN_VALUE + 1, Integer.MAX_VALUE, Integer.MAX_VALUE - 1};
     private static final String[] TEXTS = {"", "f4;v6,3;v9,2;v3,5;v12,1;h20,2,1;d18,0,0;o15,3,1;n14,1,0;p9,0,5;h7,6,3;",
         "f0;v0,0;", "f9;v1,1;h3,0,0;", "f5;v3,2;v4,1;v5,0;v6,1;v2,2;d30,1,1;n20,2,0;p25,0,1;", "f1;v1,1;h", "f77;",
         "f3;v5,1;v5,1;o30,6,5;d30,5,4;h28,1,3;p20,0,2;n22,2,1;n21,3,0;"};
-    private static final Set<String> FORETOLD = Set.of("arrive", "where", "strength", "order", "toKeep", "whole", "meal",
-        "catches", "beloved", "fits", "asked", "storm", "drawn", "kind", "as", "trace", "count", "status", "fault", "bird",
-        "valley", "image");
+    private static final Set<String> FORETOLD = Set.of("arrive", "where", "strength", "order", "toKeep", "whole",
+        "meal", "catches", "beloved", "fits", "asked", "storm", "drawn", "kind", "as", "trace", "count", "status",
+        "fault", "bird", "valley", "image");
     private static final Check CHECK = new Check();
     private static final Random DRAWS = new Random(2026);
 
@@ -94,7 +94,8 @@ public final class AnyCallTest {
         boolean isRefused = answer <= ThirtyBirds.BAD && !call.method.getName().equals("flight")
             && !call.method.getName().equals("set");
         if (isRefused || FORETOLD.contains(call.method.getName())) {
-            CHECK.holds(call + ", that answered " + answer + ", changes nothing", Check.seen(x).equals(Check.seen(ahead)));
+            boolean isSame = Check.seen(x).equals(Check.seen(ahead));
+            CHECK.holds(call + ", that answered " + answer + ", changes nothing", isSame);
         }
     }
 }

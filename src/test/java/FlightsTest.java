@@ -250,6 +250,19 @@ public final class FlightsTest {
         due("turned back", y.count(5), 1);
         due("fly()", y.fly(), 0);
         due("turned back", y.count(5), 5);
+        CHECK.part("fly, all six leave one by one");
+        ThirtyBirds w = Check.told("f9;v5,0;v5,0;h4,6,0;h9,1,0;h9,2,0;h9,3,0;h9,4,0;h9,5,0;");
+        for (int bird = 1; bird < 6; bird++) {
+            w.keep(bird, 1);
+        }
+        due("fly()", w.fly(), 62);
+        due("call(0)", w.call(0), 63);
+        due("eat(0)", w.eat(0), 13);
+        for (int bird = 1; bird < 6; bird++) {
+            w.keep(bird, 0);
+        }
+        due("fly()", w.fly(), 0);
+        due("turned back", w.count(5), 7);
         CHECK.part("fly, strong as asked goes on");
         due("fly()", Check.told("f1;v5,1;h6,0,0;h5,0,0;").fly(), 1);
         CHECK.part("fly, a bird turned back twice counts twice");

@@ -332,6 +332,8 @@ public final class ForetoldTest {
         stormIs(z, 6, 1, 531441, 1000000);
         stormIs(z, 1, 1, 999999, 1000000);
         stormIs(z, 0, 1, 1, 1);
+        stormIs(Check.told("f1;v1,0;h5,0,0;h6,0,0;"), 2, 9, 1, 10);
+        stormIs(Check.told("f1;v1,0;h4,0,0;"), 1, 10, 0, 1);
         ThirtyBirds none = Check.told("f1;v5,0;");
         stormIs(none, 0, 4, 1, 1);
         stormIs(none, 1, 4, 0, 1);

@@ -13,11 +13,12 @@ import java.util.regex.Pattern;
 /** The face of the class, and the rules of LANGUAGE.md that can be seen from outside or in the text of the program. */
 public final class LanguageTest {
     private static final Path PROGRAM = Path.of("src/main/java/ThirtyBirds.java");
-    private static final String FACE = "row3 set3 copy5 drop1 feed1 flight0 fault0 fly0 eat1 keep2 call1 swap0 undo0 bird2 "
-        + "valley2 arrive0 where1 strength2 order1 toKeep1 whole2 meal1 catches1 beloved1 fits5 asked3 storm3 drawn3 image1 "
-        + "restore1 kind1 as2 ask2 trace1 count1 status0";
+    private static final String FACE = "row3 set3 copy5 drop1 feed1 flight0 fault0 fly0 eat1 keep2 call1 swap0 undo0 "
+        + "bird2 valley2 arrive0 where1 strength2 order1 toKeep1 whole2 meal1 catches1 beloved1 fits5 asked3 storm3 "
+        + "drawn3 image1 restore1 kind1 as2 ask2 trace1 count1 status0";
     private static final String[] RULED_OUT = {"throw", "throws", "try", "catch", "synchronized", "assert", "import",
-        "package", "double", "float", "native", "volatile", "transient", "protected", "Object", "Thread", "System\\.(?!arraycopy)\\w+",
+        "package", "double", "float", "native", "volatile", "transient", "protected", "Object", "Thread",
+        "System\\.(?!arraycopy)\\w+",
         "Math\\.\\w+Exact", "String", "record", "->", "::", "new \\w+\\([^)]*\\) *\\{"};
     private static final Check CHECK = new Check();
 

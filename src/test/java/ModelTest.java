@@ -41,7 +41,8 @@ public final class ModelTest {
         int birds = DRAWS.nextInt(7);
         for (int i = 0; i < birds; i++) {
             char sort = Model.SORTS.charAt(DRAWS.nextInt(5));
-            m.birds.add(new Model.Bird(sort, 8 + DRAWS.nextInt(23), DRAWS.nextInt(7), DRAWS.nextInt(6)));
+            int strong = DRAWS.nextInt(4) == 0 ? DRAWS.nextInt(12) : 12 + DRAWS.nextInt(19);
+            m.birds.add(new Model.Bird(sort, strong, DRAWS.nextInt(7), DRAWS.nextInt(6)));
         }
         return m;
     }

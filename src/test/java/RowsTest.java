@@ -52,10 +52,12 @@ public final class RowsTest {
         due("row(8, 0, -1), BAD first", x.row(8, 0, -1), BAD);
         due("row(0, 3, -1), BAD first", x.row(0, 3, -1), BAD);
         due("count(0)", x.count(0), 3);
+        x.set(3, 0, 63);
         x.set(3, 4, 63);
         due("row(3, 1, -1)", x.row(3, 1, -1), SIZE);
         item(x, 3, 4, 63);
         due("row(3, 1, 5) again", x.row(3, 1, 5), 5);
+        item(x, 3, 0, 0);
         item(x, 3, 4, 0);
         due("row(3, 0, 2), another lane", x.row(3, 0, 2), 2);
         due("set(3, 1, 128)", x.set(3, 1, 128), -128);
