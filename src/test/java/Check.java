@@ -1,5 +1,10 @@
+import java.util.function.IntUnaryOperator;
+
 /** What the tests share: holds answers against what is due, and tells texts to an object. */
 final class Check {
+    /** A flight by which asked() tells what an item is: whom its only valley leaves flying, by what it asks. */
+    static final String READER = "f0;v0,0;h1,0,0;h2,0,0;h3,0,0;h4,0,0;h5,0,0;h6,0,0;";
+
     private int wrong = 0;
     private int held = 0;
     private String part = "";
@@ -18,6 +23,33 @@ final class Check {
 
     void holds(String what, boolean is) {
         due(what, is ? 1 : 0, 1);
+    }
+
+    /** Each number from the least to the most is taken; what lies one beyond either, or far off, is refused. */
+    void span(String call, int least, int most, int refusal, IntUnaryOperator on) {
+        for (int number = least; number <= most; number++) {
+            holds(call + " takes " + number, on.applyAsInt(number) != refusal);
+        }
+        due(call + ", one too small: " + (least - 1), on.applyAsInt(least - 1), refusal);
+        due(call + ", one too large: " + (most + 1), on.applyAsInt(most + 1), refusal);
+        due(call + ", the least int", on.applyAsInt(Integer.MIN_VALUE), refusal);
+        due(call + ", the largest int", on.applyAsInt(Integer.MAX_VALUE), refusal);
+    }
+
+    /** What asked() answers of an item in the READER flight; only 0, 32, 48, 56, 60, 62 and 63 can be told apart. */
+    void item(ThirtyBirds x, int row, int i, int want) {
+        int asks = 0;
+        for (int ask = 0; ask <= 20; ask++) {
+            asks |= (ask < 2 ? 63 : 63 << ask - 1 & 63) == want ? 1 << ask : 0;
+        }
+        holds(want + " can be read", asks != 0);
+        due("item " + i + " of row " + row + " is " + want + ": asked()", x.asked(row, i, 1), asks);
+    }
+
+    void items(ThirtyBirds x, int row, int... want) {
+        for (int i = 0; i < want.length; i++) {
+            item(x, row, i, want[i]);
+        }
     }
 
     /** Ends the test, with exit code 1 if an answer was wrong. */
