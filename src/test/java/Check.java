@@ -77,25 +77,29 @@ final class Check {
         return x;
     }
 
-    /** All that can be seen of an object without changing it, but for status() and what rows hold. */
+    /** All that can be seen of an object without changing it, but for status() and what rows hold; in few calls. */
     static String seen(ThirtyBirds x) {
         StringBuilder s = new StringBuilder();
+        int[] counts = new int[8];
         for (int what = 0; what < 8; what++) {
-            s.append(x.count(what)).append(' ');
+            counts[what] = x.count(what);
+            s.append(counts[what]).append(' ');
         }
-        for (int bird = 0; bird < x.count(2); bird++) {
+        for (int bird = 0; bird < counts[2]; bird++) {
             s.append('|').append(x.kind(bird));
             for (int what = 0; what < 6; what++) {
                 s.append(' ').append(x.bird(bird, what));
             }
         }
-        for (int valley = 0; valley < x.count(1); valley++) {
+        for (int valley = 0; valley < counts[1]; valley++) {
             for (int what = 0; what < 3; what++) {
                 s.append(" v").append(x.valley(valley, what));
             }
         }
-        for (int i = 0; i <= 16; i++) {
-            s.append(" t").append(x.trace(i));
+        int body = x.trace(0);
+        for (int i = 1; i <= 17 && body != ThirtyBirds.NONE; i++) {
+            s.append(" t").append(body);
+            body = x.trace(i);
         }
         return s.append(" f").append(x.fault()).toString();
     }

@@ -384,29 +384,38 @@ public final class FlightsTest {
     private static void undo() {
         CHECK.part("undo");
         due("no flight", new ThirtyBirds().undo(), STATE);
-        ThirtyBirds x = Check.told("f3;v5,1;v6,2;v7,3;h20,0,0;d6,0,0;h9,1,0;");
+        ThirtyBirds x = actsDone(0);
         due("no act", x.undo(), STATE);
-        String[] before = new String[6];
-        before[0] = Check.seen(x);
-        x.swap();
-        before[1] = Check.seen(x);
-        x.fly();
-        before[2] = Check.seen(x);
-        due("call(1)", x.call(1), 3);
-        before[3] = Check.seen(x);
-        x.eat(1);
-        before[4] = Check.seen(x);
-        x.keep(1, 1);
-        before[5] = Check.seen(x);
-        x.keep(1, 0);
+        for (int act = 0; act < 6; act++) {
+            act(x, act);
+        }
         for (int left = 5; left >= 0; left--) {
             due("undo()", x.undo(), left);
-            CHECK.holds("all is as ahead of act " + left, Check.seen(x).equals(before[left]));
+            CHECK.holds("all is as ahead of act " + left, Check.seen(x).equals(Check.seen(actsDone(left))));
         }
         due("undo(), none", x.undo(), STATE);
         due("eat(0) then", x.eat(0), 23);
         due("undo()", x.undo(), 0);
         due("bird(0, 0)", x.bird(0, 0), 20);
+    }
+
+    private static ThirtyBirds actsDone(int acts) {
+        ThirtyBirds x = Check.told("f3;v5,1;v6,2;v7,3;h20,0,0;d6,0,0;h9,1,0;");
+        for (int act = 0; act < acts; act++) {
+            act(x, act);
+        }
+        return x;
+    }
+
+    private static void act(ThirtyBirds x, int act) {
+        switch (act) {
+            case 0 -> due("swap()", x.swap(), 1);
+            case 1 -> due("fly()", x.fly(), 1);
+            case 2 -> due("call(1)", x.call(1), 3);
+            case 3 -> due("eat(1)", x.eat(1), 7);
+            case 4 -> due("keep(1, 1)", x.keep(1, 1), 2);
+            default -> due("keep(1, 0)", x.keep(1, 0), 0);
+        }
     }
 
     private static void undoForgets() {
