@@ -15,6 +15,7 @@ public final class FlyEdgesTest {
         leavesByHowMany();
         leavesByMoreThanThereAre();
         overAndOver();
+        overAndOverAllSix();
         doesNotFlyAnyMore();
         allNobodyTheLastNone();
         thirtyAtMost();
@@ -191,6 +192,25 @@ public final class FlyEdgesTest {
         due("one by one, told downward", Check.told("f0;v1,0;h9,5,0;h9,4,0;h9,3,0;h9,2,0;h9,1,0;" + WEAK).fly(), 0);
         due("up to a gap", Check.told("f0;v1,0;" + WEAK + "h9,1,0;h9,2,0;h9,4,0;h9,5,0;h9,6,0;").fly(), 56);
         due("two at once", Check.told("f0;v1,0;h9,3,0;h9,1,0;h9,1,0;h9,4,0;h9,6,0;" + WEAK).fly(), 16);
+    }
+
+    /** Once one turned back and was called, all six may leave one behind the other. */
+    private static void overAndOverAllSix() {
+        CHECK.part("over and over, six times");
+        for (int last = 5; last <= 6; last++) {
+            ThirtyBirds x = Check.told("f9;v1,0;v1,0;h0," + last + ",0;h9,5,0;h9,4,0;h9,3,0;h9,2,0;h9,1,0;");
+            for (int bird = 1; bird < 6; bird++) {
+                x.keep(bird, 1);
+            }
+            due("fly()", x.fly(), 62);
+            for (int bird = 1; bird < 6; bird++) {
+                x.keep(bird, 0);
+            }
+            due("call(0)", x.call(0), 63);
+            due("eat(0)", x.eat(0), 9);
+            due("fly()", x.fly(), 0);
+            due("turned back", x.count(5), 7);
+        }
     }
 
     private static void doesNotFlyAnyMore() {

@@ -442,9 +442,14 @@ public final class ForetoldEdgesTest {
         stormIs(six, 1, 1, 999999, 1000000);
         stormIs(six, 6, 9, 1, 1000000);
         CHECK.part("STORM: each bird that flies");
-        ThirtyBirds x = Check.told("f0;v1,0;v5,0;h5,0,0;" + WEAK.repeat(5));
-        x.fly();
-        stormIs(x, 1, 3, 7, 10);
+        for (int number = 0; number <= 5; number++) {
+            ThirtyBirds x = Check.told("f0;v1,0;v5,0;" + WEAK.repeat(number) + "h5,0,0;" + WEAK.repeat(5 - number));
+            due("fly()", x.fly(), 1 << number);
+            stormIs(x, 1, 3, 7, 10);
+        }
+        ThirtyBirds x = Check.told("f0;v1,0;v5,0;" + (WEAK + "h5,0,0;").repeat(3));
+        due("fly()", x.fly(), 42);
+        stormIs(x, 3, 3, 343, 1000);
     }
 
     private static void stormFiveLess() {
@@ -518,10 +523,28 @@ public final class ForetoldEdgesTest {
         for (int seed : new int[] {0, -1, 1000000, Integer.MIN_VALUE, Integer.MAX_VALUE}) {
             due("seed " + seed, bySeed.applyAsInt(seed), BAD);
         }
+        flocksOfThoseThatDoNotFly();
         CHECK.part("FLOCKS: fed, whether it flies or not");
         ThirtyBirds y = Check.told("f9;v1,0;v0,0;" + WEAK);
         y.fly();
         due("drawn(40, 1, 0), fed ones fly no more for it", y.drawn(40, 1, 0), 0);
+    }
+
+    /** 1 leaves by two that turned back; 0 did already, and does not again, so none but 2 makes 1 leave. */
+    private static void flocksOfThoseThatDoNotFly() {
+        CHECK.part("FLOCKS: turns back now, if it flies");
+        for (int seed = 1; seed <= 5; seed++) {
+            ThirtyBirds x = Check.told("f9;v1,0;v1,0;" + WEAK + "h9,2,0;h9,0,0;h9,0,0;");
+            due("fly()", x.fly(), 14);
+            long draw = seed;
+            int arrived = 0;
+            for (int n = 0; n <= 40; n++) {
+                due("drawn(" + n + ", " + seed + ", 0)", x.drawn(n, seed, 0), arrived);
+                draw = draw * 16807 % 2147483647L;
+                int bird = (int) (draw % 4);
+                arrived += draw % 3 != 0 || bird == 0 ? 3 : bird == 1 ? 2 : 1;
+            }
+        }
     }
 
     private static void all(String what, int want, IntUnaryOperator on, int... numbers) {

@@ -34,6 +34,8 @@ public final class RefusedTest {
         noneComesRefused();
         begin("no act", RefusedTest::noAct);
         refused("undo()", ThirtyBirds::undo, STATE);
+        begin("an image of the other number alone", RefusedTest::oneImage);
+        refused("restore(0), none was kept", x -> x.restore(0), STATE);
         begin("a full tape", RefusedTest::fullTape);
         refused("feed('f')", x -> x.feed('f'), FULL);
         refused("feed(256), BAD ahead of FULL", x -> x.feed(256), BAD);
@@ -91,7 +93,7 @@ public final class RefusedTest {
         }
     }
 
-    /** Birds 0, 1, 2 fly, 1 is kept, 3 turned back; valley 0 is behind them, 2 and then 1 come; six acts, two images. */
+    /** Birds 0, 1, 2 fly, 1 is kept, 3 turned back; valley 0 is behind them, 2 and then 1 come; seven acts, two images. */
     private static ThirtyBirds midway() {
         ThirtyBirds x = flown();
         Check.put(x, "f1;v2,3;h4,5,1;");
@@ -110,25 +112,40 @@ public final class RefusedTest {
         CHECK.due("call(2)", x.call(2), 7);
         CHECK.due("swap()", x.swap(), 2);
         x.image(1);
+        CHECK.due("eat(1)", x.eat(1), 11);
         x.ask(1, 0);
         return x;
     }
 
     private static ThirtyBirds oneComes() {
         ThirtyBirds x = midway();
-        CHECK.due("fly()", x.fly(), 2);
+        CHECK.due("keep(0, 1)", x.keep(0, 1), 3);
+        CHECK.due("fly()", x.fly(), 3);
         return x;
     }
 
     private static ThirtyBirds noneComes() {
         ThirtyBirds x = oneComes();
-        CHECK.due("fly()", x.fly(), 2);
+        CHECK.due("fly()", x.fly(), 3);
         return x;
     }
 
     private static ThirtyBirds noAct() {
         ThirtyBirds x = midway();
         CHECK.due("restore(1)", x.restore(1), 1);
+        return x;
+    }
+
+    private static ThirtyBirds oneImage() {
+        ThirtyBirds x = noFlight();
+        x.flight();
+        CHECK.due("flight()", Check.tell(x, "f3;v2,1;v6,2;v7,3;h20,2,1;d9,3,5;o16,1,0;n1,0,5;"), 4);
+        x.keep(1, 1);
+        CHECK.due("fly()", x.fly(), 2);
+        x.image(1);
+        CHECK.due("call(0)", x.call(0), 3);
+        x.ask(1, 0);
+        Check.put(x, "f1;v2,3;h4,5,1;");
         return x;
     }
 
