@@ -152,7 +152,7 @@ public final class RefusedTest {
     private static ThirtyBirds fullTape() {
         ThirtyBirds x = flown();
         Check.put(x, "f1;v2,3;h4,5,1;");
-        while (x.count(7) < 120) {
+        for (int bytes = x.count(7); bytes < 120; bytes++) {
             x.feed('h');
         }
         return x;
